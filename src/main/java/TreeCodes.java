@@ -97,7 +97,9 @@ public final class TreeCodes {
             case 3: return now.countOfDegree(now.all(), 1);
             case 4: return now.countOfDegree(now.all(), 0);
             case 5: return now.weightOfSet(now.all());
-            case 6: return words.classesOf(now);
+            case 6:
+                words.classOf(now, now.components() - 1);
+                return words.met.count;
             case 7: return past.kept;
             case 8: return past.changes;
             default: return NONE;
@@ -271,6 +273,7 @@ public final class TreeCodes {
         if (n < 1 || n > MOST_SURVEYED || what < 0 || what >= SURVEY_ANSWERS) {
             throw new IllegalArgumentException("vertices or what out of range");
         }
+        surveyed.goThrough(n);
         return surveyed.answer(n, what);
     }
 
@@ -1033,7 +1036,8 @@ public final class TreeCodes {
         }
 
         int wordOf(Forest forest, int members) {
-            int centroids = centroidsOf(forest, members);
+            wordFrom(forest, lowest(members));
+            int centroids = centroidsSeen(forest, members);
             int least = NONE;
             for (int v = 0; v < forest.size; v++) {
                 if (holds(centroids, v)) {
@@ -1044,10 +1048,9 @@ public final class TreeCodes {
             return least;
         }
 
-        /** The vertices at which no part has more than half of the vertices: just the centroids. */
-        private int centroidsOf(Forest forest, int members) {
+        /** From the lengths of the words below each vertex: a centroid has no part of more than half of all. */
+        private int centroidsSeen(Forest forest, int members) {
             int signs = 2 * Integer.bitCount(members);
-            wordFrom(forest, lowest(members));
             int found = 0;
             for (int v = 0; v < forest.size; v++) {
                 if (holds(members, v) && 2 * Math.max(longestBelow[v], signs - lengths[v]) <= signs) {
@@ -1080,6 +1083,7 @@ public final class TreeCodes {
             return places * symmetric[root];
         }
 
+        /** Meets the words of the components up to this one, each word once. */
         int classOf(Forest forest, int component) {
             met.forget();
             int number = NONE;
@@ -1087,11 +1091,6 @@ public final class TreeCodes {
                 number = met.numberOf(wordOf(forest, forest.componentSet(c)));
             }
             return number;
-        }
-
-        int classesOf(Forest forest) {
-            classOf(forest, forest.components() - 1);
-            return met.count;
         }
     }
 
@@ -1176,18 +1175,13 @@ public final class TreeCodes {
         private final Met met = new Met();
 
         int answer(int n, int what) {
-            if (n < 1 || n > MOST_SURVEYED || what < 0 || what >= SURVEY_ANSWERS) {
-                return NONE;
-            }
-            // there is at least one word as soon as n has been gone through
-            if (answers[n][0] == 0) {
-                goThrough(n);
-            }
-            return answers[n][what];
+            boolean there = n >= 1 && n <= MOST_SURVEYED && what >= 0 && what < SURVEY_ANSWERS;
+            return there ? answers[n][what] : NONE;
         }
 
-        private void goThrough(int n) {
-            if (n < 1 || n > MOST_SURVEYED) {
+        void goThrough(int n) {
+            // there is at least one word as soon as n has been gone through
+            if (n < 1 || n > MOST_SURVEYED || answers[n][0] != 0) {
                 return;
             }
             met.forget();
