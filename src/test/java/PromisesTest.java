@@ -183,6 +183,10 @@ public final class PromisesTest {
         error("vertices 3;", ";", 1);
         error("vertices 3;", "0", 1);
         error("vertices 3;", "edges 0 1;", 1);
+        error("vertices 3;", "edgez 0 1;", 1);
+        error("vertices 3;", "fdge 0 1;", 1);
+        error("vertices 3;", "edga 0 1;", 1);
+        error("", "wertices 3;", 1);
         error("vertices 3;", "\u00ff", 1);
         error("vertices 3;", "\u0000", 1);
         error("vertices 3;edge ", ";", 1);
@@ -499,6 +503,7 @@ public final class PromisesTest {
             Check.same("23: free " + n, x.classes(n, false), free[n - 1]);
             Check.same("23: rooted " + n, x.classes(n, true), rooted[n - 1]);
         }
+        Check.same("23: rooted, asked first", new TreeCodes().classes(10, true), 719);
         Check.raises("23: 0", ARGUMENT, () -> x.classes(0, true));
         Check.raises("23: 11", ARGUMENT, () -> x.classes(11, false));
         Check.raises("23: -1", ARGUMENT, () -> x.classes(-1, false));
