@@ -2,8 +2,26 @@
 final class Check {
     private static int wrong = 0;
     private static int asked = 0;
+    private static int sentences = 0;
+    private static String sentence = "";
 
     private Check() {
+    }
+
+    /** Runs the test of one sentence of the document; what it finds is told with the sentence. */
+    static void sentence(String text, Runnable test) {
+        int before = asked;
+        sentence = text + " | ";
+        try {
+            test.run();
+        } catch (RuntimeException e) {
+            tell("ended by " + e);
+        }
+        if (asked == before) {
+            tell("nothing was asked");
+        }
+        sentences++;
+        sentence = "";
     }
 
     static void same(String call, double got, double due) {
@@ -43,12 +61,13 @@ final class Check {
     private static void tell(String text) {
         wrong++;
         if (wrong <= 50) {
-            System.out.println(text);
+            System.out.println(sentence + text);
         }
     }
 
     static void end() {
-        System.out.println(asked + " answers, " + wrong + " not as due");
+        String about = sentences == 0 ? "" : sentences + " sentences, ";
+        System.out.println(about + asked + " answers, " + wrong + " not as due");
         if (wrong > 0) {
             System.exit(1);
         }

@@ -60,7 +60,8 @@ public final class CountsTest {
         int[] met = new int[words.size()];
         int[] labellings = new int[words.size()];
         for (int rank = 0; rank < Model.trees(n); rank++) {
-            if (rank % 500 == 499) {
+            // an object is used for 512 calls at most
+            if (rank % 20 == 19) {
                 x = Texts.of("vertices " + n + ";");
             }
             x.fromRank(rank);

@@ -35,11 +35,19 @@ public final class FaceTest {
         "boolean keep(int) " + A, "boolean restore(int) " + A, "int undo()", "int account(int) " + A
     };
 
+    /** What ../shared/LANGUAGE.md rules out by a word that can be seen; what it leaves open is not here. */
     private static final String[] FORBIDDEN = {
-        "->", "::", "\\bfinally\\b", "\\bsynchronized\\b", "\\bassert\\b", "\\bcatch\\b", "\\bvar\\b", "\\binstanceof\\b",
-        "\\bMath\\.\\w*Exact\\b", "\\bSystem\\.(?!arraycopy\\b)", "\\bThread\\b", "\\bnew Object\\b", "static \\{",
-        "\\bMAX_VALUE\\b", "\\bMIN_VALUE\\b", "\\bequals\\b", "\\bhashCode\\b", "\\btoString\\b"
+        "^(?!\\s*(case\\b|default\\b)).*->", "::", "\\bfinally\\b", "\\bsynchronized\\b", "\\bassert\\b",
+        "\\bcatch \\((\\w+ \\| )*(Throwable|Error|Exception|\\w*(Array|NullPointer|ClassCast|NegativeArray)\\w*)\\b",
+        "\\bMath\\.\\w*Exact\\b", "\\bSystem\\.(?!arraycopy\\b)", "\\bThread\\b", "\\bnew Object\\b", "\\bstatic \\{",
+        "\\bboolean equals\\(", "\\bint hashCode\\(", "\\bString toString\\(", "\\bvolatile\\b", "\\bnative\\b",
+        "\\bMath\\.random\\b", "\\bextends \\w*(Exception|Error|Throwable)\\b", "\\bpackage\\b"
     };
+
+    /** The document says "some sixty lines", "some twelve classes", "some twenty fields". */
+    private static final int SOME_LINES = 66;
+    private static final int SOME_CLASSES = 13;
+    private static final int SOME_FIELDS = 22;
 
     public static void main(String[] args) throws IOException {
         members();
@@ -113,12 +121,12 @@ public final class FaceTest {
 
     private static void nested() {
         Class<?>[] all = TreeCodes.class.getDeclaredClasses();
-        Check.holds("at most twelve classes", all.length + 1 <= 12);
+        Check.holds("some twelve classes", all.length + 1 <= SOME_CLASSES);
         for (Class<?> inner : all) {
             Check.holds("static: " + inner, Modifier.isStatic(inner.getModifiers()));
             Check.fails("public: " + inner, Modifier.isPublic(inner.getModifiers()));
             long fields = Arrays.stream(inner.getDeclaredFields()).filter(f -> !Modifier.isStatic(f.getModifiers())).count();
-            Check.holds("at most twenty fields: " + inner, fields <= 20);
+            Check.holds("some twenty fields: " + inner, fields <= SOME_FIELDS);
             for (Method method : inner.getDeclaredMethods()) {
                 arguments(method);
             }
@@ -138,12 +146,13 @@ public final class FaceTest {
             if (matcher.find()) {
                 from = i;
                 indent = matcher.group(1);
-            } else if (lines.get(i).equals(indent + "}")) {
-                Check.holds("at most sixty lines up to line " + (i + 1), i - from < 60);
+            } else if (from >= 0 && lines.get(i).equals(indent + "}")) {
+                Check.holds("some sixty lines up to line " + (i + 1), i - from < SOME_LINES);
+                from = -1;
             }
             Check.holds("only signs 1 to 127 on line " + (i + 1), lines.get(i).chars().allMatch(c -> c < 128));
         }
-        Check.holds("imports", lines.stream().filter(line -> line.startsWith("import"))
-            .allMatch(line -> line.matches("import java\\.util\\.(Arrays|NoSuchElementException);")));
+        String allowed = "import java\\.util\\.(Arrays|ArrayList|List|Iterator|NoSuchElementException);";
+        Check.holds("imports", lines.stream().filter(line -> line.startsWith("import")).allMatch(line -> line.matches(allowed)));
     }
 }

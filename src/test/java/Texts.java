@@ -27,6 +27,12 @@ final class Texts {
         return x.load();
     }
 
+    /** Loads the text alone, whatever the buffer holds. */
+    static int replace(TreeCodes x, String text) {
+        x.truncate(0);
+        return load(x, text);
+    }
+
     static TreeCodes of(String text) {
         TreeCodes x = new TreeCodes();
         int answer = load(x, text);
