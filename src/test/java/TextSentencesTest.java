@@ -55,6 +55,7 @@ public final class TextSentencesTest {
         Check.sentence("Texts: later weights replace earlier ones", TextSentencesTest::laterWeights);
         Check.sentence("Texts: a NUMBER is a run of 1 or 2 digits", TextSentencesTest::digits);
         Check.sentence("Texts: a word is a maximal run of letters", TextSentencesTest::maximalWords);
+        Check.sentence("Texts: words that differ in one letter", TextSentencesTest::otherLetters);
         Check.sentence("Texts: spaces and newlines may stand anywhere between tokens", TextSentencesTest::blanks);
         Check.sentence("Texts: spaces and newlines part tokens", TextSentencesTest::blanksPart);
     }
@@ -487,6 +488,21 @@ public final class TextSentencesTest {
         error("", "verticesedge 3;", 1);
         error("vertices 3;", "Edge 0 1;", 1);
         error("vertices 3;edge 0 1;weight 2 ", "x5;", 1);
+    }
+
+    /** A letter more ahead or behind, or another letter or sign at each place. */
+    private static void otherLetters() {
+        for (String word : new String[] {"vertices", "edge", "path", "star", "code", "weight"}) {
+            String head = word.equals("vertices") ? "" : "vertices 4;";
+            for (char sign = 'a'; sign <= 'z'; sign++) {
+                error(head, sign + word + " 1 2;", 1);
+                error(head, word + sign + " 1 2;", 1);
+                for (int at = 0; at < word.length(); at++) {
+                    char other = word.charAt(at) == sign ? Character.toUpperCase(sign) : sign;
+                    error(head, word.substring(0, at) + other + word.substring(at + 1) + " 1 2;", 1);
+                }
+            }
+        }
     }
 
     private static void blanks() {
