@@ -298,6 +298,10 @@ public final class CodeSentencesTest {
             Check.same("survey(" + n + ", " + what + ")", x.survey(n, what), due[n - 1]);
             Check.same("survey(" + n + ", " + what + ") alone", new TreeCodes().survey(n, what), due[n - 1]);
         }
+        TreeCodes y = new TreeCodes();
+        for (int n = 6; n >= 1; n--) {
+            Check.same("survey(" + n + ", " + what + ") behind larger ones", y.survey(n, what), due[n - 1]);
+        }
         Check.same("survey(6, " + what + ") again", x.survey(6, what), due[5]);
     }
 

@@ -37,6 +37,7 @@ public final class TextSentencesTest {
         Check.sentence("Promise 5: returns the number of edges", TextSentencesTest::numbersOfEdges);
         Check.sentence("Promise 5: the buffer is empty afterwards", TextSentencesTest::emptyAfterwards);
         Check.sentence("Promise 5: replaces everything", TextSentencesTest::replacesEverything);
+        Check.sentence("Promise 5: replaces a forest of each size", TextSentencesTest::replacesEachSize);
         Check.sentence("Promise 5: everything but the output", TextSentencesTest::outputStays);
         Check.sentence("Promise 5: if there is an error, everything stays", TextSentencesTest::everythingStays);
         Check.sentence("Promise 5: an empty text", TextSentencesTest::emptyText);
@@ -310,6 +311,19 @@ public final class TextSentencesTest {
         Check.raises("vertex(2, 0)", IndexOutOfBoundsException.class, () -> x.vertex(2, 0));
         Texts.replace(x, "vertices 4;");
         Check.same("no old weight and no old edge", Sight.vertices(x), "0*1 0*1 0*1 0*1 ");
+    }
+
+    private static void replacesEachSize() {
+        for (int before = 1; before <= 10; before++) {
+            TreeCodes x = new TreeCodes();
+            for (int n = 10; n >= 1; n--) {
+                Texts.load(x, "vertices " + before + ";code" + " 0".repeat(Math.max(before - 2, 0)) + ";weight 0 9;");
+                Texts.load(x, "vertices " + n + ";");
+                Check.same("vertices behind " + before, x.forest(0), n);
+                Check.same("edges behind " + before, x.forest(1), 0);
+                Check.same("weights behind " + before, x.forest(5), n);
+            }
+        }
     }
 
     private static void outputStays() {
